@@ -5,6 +5,8 @@ final class Due {
         void run();
     }
 
+    private static final int MOST_PRINTED = 40;
+
     private final String test;
     private int wrong = 0;
     private int looked = 0;
@@ -14,44 +16,36 @@ final class Due {
     }
 
     void same(String call, long got, long want) {
-        looked++;
-        if (got != want) {
-            tell(call + " answered " + got + ", due is " + want);
-        }
+        is(call + " answered " + got + ", due is " + want, got == want);
     }
 
     void sameReal(String call, double got, double want) {
-        looked++;
-        if (Double.compare(got, want) != 0) {
-            tell(call + " answered " + got + ", due is " + want);
-        }
+        is(call + " answered " + got + ", due is " + want, Double.compare(got, want) == 0);
     }
 
-    void is(String what, boolean holds) {
-        looked++;
-        if (!holds) {
-            tell(what + " does not hold");
-        }
+    void sameText(String call, String got, String want) {
+        is(call + " answered " + got + ", due is " + want, got.equals(want));
     }
 
     /** The very class is asked for: a subclass would be the machine's own exception. */
     void thrown(String call, Class<?> want, Call made) {
-        looked++;
+        String got = "nothing";
         try {
             made.run();
-        } catch (RuntimeException got) {
-            if (got.getClass() != want) {
-                tell(call + " threw " + got.getClass().getName() + ", due is " + want.getName());
-            }
-            return;
+        } catch (RuntimeException thrown) {
+            got = thrown.getClass().getName();
         }
-        tell(call + " threw nothing, due is " + want.getName());
+        is(call + " threw " + got + ", due is " + want.getName(), got.equals(want.getName()));
     }
 
-    private void tell(String text) {
+    void is(String what, boolean holds) {
+        looked++;
+        if (holds) {
+            return;
+        }
         wrong++;
-        if (wrong <= 40) {
-            System.out.println(test + ": " + text);
+        if (wrong <= MOST_PRINTED) {
+            System.out.println(test + ": wrong: " + what);
         }
     }
 
