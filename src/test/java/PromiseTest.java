@@ -14,6 +14,7 @@ final class PromiseTest {
         setRoomEmptiesBoth();
         setRoomRefuses();
         askMovesJars();
+        askAtTheBorder();
         askMakesNoRoomThatIsThere();
         askInARoomForOne();
         askRefuses();
@@ -73,9 +74,13 @@ final class PromiseTest {
         DUE.same("setRoom(12)", pantry.setRoom(12), 3);
         DUE.same("setRoom(1)", pantry.setRoom(1), 12);
         DUE.same("count(0)", pantry.count(0), 1);
+        GhostPantry ghosts = asked(3, 0, 0, 1, 1, 2, 2, 3, 3, 4, 5);
+        DUE.sameText("something stands in every row", Told.rows(ghosts), "5|3 2|4|1 0|5 4 3|");
+        ghosts.setRoom(3);
+        DUE.sameText("all rows are empty after setRoom", Told.rows(ghosts), "|||||");
         GhostPantry large = asked(12, 0, 1, 2, 3, 4, 5, 6, 7, 8, 9, 10, 11);
         DUE.sameText("twelve jars in room 12", Told.rows(large),
-            "11 10 9 8 7 6 5 4 3 2 1 0|||" + "|11 10 9 8 7 6 5 4 3 2 1 0|");
+            "11 10 9 8 7 6 5 4 3 2 1 0||||11 10 9 8 7 6 5 4 3 2 1 0|");
         DUE.same("leaves(12) of room 12", large.leaves(12), 0);
         DUE.same("leaves(0) of room 12", large.leaves(0), -1);
     }
@@ -151,6 +156,32 @@ final class PromiseTest {
             }
         }
         return text;
+    }
+
+    /** Each last step was worked by hand from the rows before it, which the first text tells. */
+    private static void askAtTheBorder() {
+        lastAsk("a step down by 2", 5, "10 7 6|1 0|2 3|8|", 2, "10 7|8 1 0|6 2 3||", 0,
+            0, 1, 3, 2, 8, 8, 6, 0, 7, 1, 10, 8);
+        lastAsk("a step up by 3 / 2", 5, "1 7 2|10 8|0 3|9 6 5|", 2, "1 7 2|3 10|0|8 9 6 5|", 3,
+            8, 5, 6, 3, 5, 6, 10, 9, 9, 0, 8, 2, 7, 10, 1, 3);
+        lastAsk("as many as the border, for a ghost of a recent one", 3, "6|2 1|3||", 0,
+            "6|3 2||1|", 1, 1, 1, 2, 3, 2, 6, 3);
+        lastAsk("as many as the border, for a ghost of a frequent one", 3, "1|0 2||4|", 2,
+            "|4 0 2|1||", 1, 4, 2, 4, 0, 1, 2, 0, 4);
+        lastAsk("less than the border, for a ghost of a frequent one", 5, "7|0 1 5 3||8|", 3,
+            "7|8 0 1 5||3|", 2, 8, 3, 5, 0, 8, 1, 7, 3, 5, 1, 0, 8);
+        lastAsk("none, and the border 0, for a ghost of a frequent one", 2, "|2 1||0|", 0,
+            "|0 2||1|", 0, 0, 0, 1, 1, 2, 2, 0);
+    }
+
+    private static void lastAsk(String told, int room, String before, int borderBefore, String after,
+            int borderAfter, int... jars) {
+        GhostPantry pantry = asked(room, java.util.Arrays.copyOf(jars, jars.length - 1));
+        DUE.sameText(told + ", before", Told.rows(pantry).substring(0, before.length()), before);
+        DUE.same(told + ", border before", pantry.count(7), borderBefore);
+        pantry.ask(jars[jars.length - 1]);
+        DUE.sameText(told + ", after", Told.rows(pantry).substring(0, after.length()), after);
+        DUE.same(told + ", border after", pantry.count(7), borderAfter);
     }
 
     private static void askMakesNoRoomThatIsThere() {

@@ -1,12 +1,12 @@
 import java.util.function.Supplier;
 
 /**
- * Runs of 512 calls on the class and on Model beside it: each answer, each exception, and the digest
+ * Runs of up to 511 calls on the class and on Model beside it: each answer, each exception, and the digest
  * behind each call must be the same. The calls come from a fixed sequence, so a failure comes again.
  */
 final class RunsTest {
     private static final int RUNS = 600;
-    private static final int STEPS = 256; // each with a digest behind it: 512 calls
+    private static final int STEPS = 255; // each with a digest behind it, and one setRoom: 511 calls
     private static final Due DUE = new Due("RunsTest");
 
     private static final String[] CALLS = {"setRoom", "ask", "spoil", "sweep", "add", "drop", "cook",
@@ -55,11 +55,12 @@ final class RunsTest {
     }
 
     private void go(int run) {
-        int room = 1 + below(12);
-        pantry.setRoom(room);
-        model.setRoom(room);
-        // One call was setRoom, and the last digest would be one too many.
-        for (int step = 0; step < STEPS - 1; step++) {
+        // Some runs keep the room that a new object has.
+        if (run % 4 != 0) {
+            int room = 1 + below(12);
+            both("run " + run + ", setRoom", () -> pantry.setRoom(room), () -> model.setRoom(room));
+        }
+        for (int step = 0; step < STEPS; step++) {
             String call = CALLS[chosen()];
             step(call, "run " + run + ", step " + step + ", " + call);
         }
