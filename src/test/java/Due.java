@@ -5,6 +5,10 @@ final class Due {
         void run();
     }
 
+    static final Class<?> BAD_INDEX = IndexOutOfBoundsException.class;
+    static final Class<?> BAD_ARGUMENT = IllegalArgumentException.class;
+    static final Class<?> BAD_STATE = IllegalStateException.class;
+
     private static final int MOST_PRINTED = 40;
 
     private final String test;
@@ -36,6 +40,13 @@ final class Due {
             got = thrown.getClass().getName();
         }
         is(call + " threw " + got + ", due is " + want.getName(), got.equals(want.getName()));
+    }
+
+    /** The call throws what it must, and changes nothing. */
+    void refused(GhostPantry pantry, String call, Class<?> want, Call made) {
+        long before = pantry.digest();
+        thrown(call, want, made);
+        same("digest after refused " + call, pantry.digest(), before);
     }
 
     void is(String what, boolean holds) {

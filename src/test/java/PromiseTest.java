@@ -1,12 +1,5 @@
 /** One method for each promise: ordinary inputs, the edges that the document names, wrong inputs. */
 final class PromiseTest {
-    private static final Class<?> BAD_INDEX = IndexOutOfBoundsException.class;
-    private static final Class<?> BAD_ARGUMENT = IllegalArgumentException.class;
-    private static final Class<?> BAD_STATE = IllegalStateException.class;
-
-    private static final int[] NO_JARS = {-1, 30, 31, 100, Integer.MIN_VALUE, Integer.MAX_VALUE};
-    private static final int[] NO_TIMES = {0, 10, -1, 90, Integer.MIN_VALUE, Integer.MAX_VALUE};
-
     private static final Due DUE = new Due("PromiseTest");
 
     public static void main(String[] args) {
@@ -59,7 +52,7 @@ final class PromiseTest {
     // ---- promise 2
 
     private static void setRoomEmptiesBoth() {
-        GhostPantry pantry = asked(3, 0, 0, 1, 1, 2, 2, 3, 3, 4, 5, 4);
+        GhostPantry pantry = Made.asked(3, 0, 0, 1, 1, 2, 2, 3, 3, 4, 5, 4);
         pantry.add(7);
         pantry.add(8);
         DUE.sameText("counts before", Told.counts(pantry), "3 1 2 0 3 3 2 2 11 4 5 2");
@@ -74,11 +67,11 @@ final class PromiseTest {
         DUE.same("setRoom(12)", pantry.setRoom(12), 3);
         DUE.same("setRoom(1)", pantry.setRoom(1), 12);
         DUE.same("count(0)", pantry.count(0), 1);
-        GhostPantry ghosts = asked(3, 0, 0, 1, 1, 2, 2, 3, 3, 4, 5);
+        GhostPantry ghosts = Made.asked(3, 0, 0, 1, 1, 2, 2, 3, 3, 4, 5);
         DUE.sameText("something stands in every row", Told.rows(ghosts), "5|3 2|4|1 0|5 4 3|");
         ghosts.setRoom(3);
         DUE.sameText("all rows are empty after setRoom", Told.rows(ghosts), "|||||");
-        GhostPantry large = asked(12, 0, 1, 2, 3, 4, 5, 6, 7, 8, 9, 10, 11);
+        GhostPantry large = Made.asked(12, 0, 1, 2, 3, 4, 5, 6, 7, 8, 9, 10, 11);
         DUE.sameText("twelve jars in room 12", Told.rows(large),
             "11 10 9 8 7 6 5 4 3 2 1 0||||11 10 9 8 7 6 5 4 3 2 1 0|");
         DUE.same("leaves(12) of room 12", large.leaves(12), 0);
@@ -86,9 +79,9 @@ final class PromiseTest {
     }
 
     private static void setRoomRefuses() {
-        GhostPantry pantry = filled();
+        GhostPantry pantry = Made.filled();
         for (int room : new int[] {0, 13, -1, -6, Integer.MIN_VALUE, Integer.MAX_VALUE}) {
-            refused(pantry, "setRoom(" + room + ")", BAD_ARGUMENT, () -> pantry.setRoom(room));
+            DUE.refused(pantry, "setRoom(" + room + ")", Due.BAD_ARGUMENT, () -> pantry.setRoom(room));
         }
     }
 
@@ -137,7 +130,7 @@ final class PromiseTest {
             jars[step] = jar;
             DUE.same(at, steady.ask(jar), (Integer) due[1]);
             // A fresh object for each look keeps every object far below its 512 calls.
-            GhostPantry fresh = asked(3, java.util.Arrays.copyOf(jars, step + 1));
+            GhostPantry fresh = Made.asked(3, java.util.Arrays.copyOf(jars, step + 1));
             String rows = Told.rows(fresh);
             DUE.sameText(at + " rows", rows.substring(0, due[2].toString().length() + 1), due[2] + "|");
             DUE.sameText(at + " plain row", Told.row(fresh, 5), latest(jars, step, 3));
@@ -176,7 +169,7 @@ final class PromiseTest {
 
     private static void lastAsk(String told, int room, String before, int borderBefore, String after,
             int borderAfter, int... jars) {
-        GhostPantry pantry = asked(room, java.util.Arrays.copyOf(jars, jars.length - 1));
+        GhostPantry pantry = Made.asked(room, java.util.Arrays.copyOf(jars, jars.length - 1));
         DUE.sameText(told + ", before", Told.rows(pantry).substring(0, before.length()), before);
         DUE.same(told + ", border before", pantry.count(7), borderBefore);
         pantry.ask(jars[jars.length - 1]);
@@ -185,7 +178,7 @@ final class PromiseTest {
     }
 
     private static void askMakesNoRoomThatIsThere() {
-        GhostPantry pantry = asked(3, 0, 0, 1, 1, 2, 2, 3, 3, 4, 5);
+        GhostPantry pantry = Made.asked(3, 0, 0, 1, 1, 2, 2, 3, 3, 4, 5);
         DUE.sameText("rows before spoil", Told.rows(pantry), "5|3 2|4|1 0|5 4 3|");
         pantry.spoil(2);
         DUE.same("ask(4) with a free place", pantry.ask(4), 3);
@@ -199,7 +192,7 @@ final class PromiseTest {
         DUE.same("ask(6) with a free place", pantry.ask(6), 0);
         DUE.sameText("no room is made for a new one", Told.rows(pantry), "6|0 4||1|6 0 4|");
 
-        GhostPantry full = asked(2, 0, 0, 1, 2, 3);
+        GhostPantry full = Made.asked(2, 0, 0, 1, 2, 3);
         DUE.sameText("ghosts fill up", Told.rows(full), "3|0|2||3 2|");
         full.spoil(0);
         full.ask(4);
@@ -208,7 +201,7 @@ final class PromiseTest {
     }
 
     private static void askInARoomForOne() {
-        GhostPantry pantry = asked(1, 0, 1);
+        GhostPantry pantry = Made.asked(1, 0, 1);
         DUE.sameText("the only recent one leaves no ghost", Told.rows(pantry), "1||||1|");
         pantry.ask(1);
         pantry.ask(2);
@@ -225,9 +218,9 @@ final class PromiseTest {
     }
 
     private static void askRefuses() {
-        GhostPantry pantry = filled();
-        for (int jar : NO_JARS) {
-            refused(pantry, "ask(" + jar + ")", BAD_INDEX, () -> pantry.ask(jar));
+        GhostPantry pantry = Made.filled();
+        for (int jar : Made.NO_JARS) {
+            DUE.refused(pantry, "ask(" + jar + ")", Due.BAD_INDEX, () -> pantry.ask(jar));
         }
         DUE.same("ask(29)", new GhostPantry().ask(29), 0);
         DUE.same("ask(0)", new GhostPantry().ask(0), 0);
@@ -236,7 +229,7 @@ final class PromiseTest {
     // ---- promise 4
 
     private static void spoilTakesAJar() {
-        GhostPantry pantry = asked(6, 0, 1, 2, 1, 3, 2);
+        GhostPantry pantry = Made.asked(6, 0, 1, 2, 1, 3, 2);
         DUE.sameText("rows before", Told.rows(pantry), "3 0|2 1|||2 3 1 0|");
         DUE.same("spoil(1)", pantry.spoil(1), 2);
         DUE.sameText("rows after spoil(1)", Told.rows(pantry), "3 0|2|||2 3 1 0|");
@@ -253,24 +246,24 @@ final class PromiseTest {
     }
 
     private static void spoilRefuses() {
-        GhostPantry pantry = filled();
-        for (int jar : NO_JARS) {
-            refused(pantry, "spoil(" + jar + ")", BAD_INDEX, () -> pantry.spoil(jar));
+        GhostPantry pantry = Made.filled();
+        for (int jar : Made.NO_JARS) {
+            DUE.refused(pantry, "spoil(" + jar + ")", Due.BAD_INDEX, () -> pantry.spoil(jar));
         }
-        GhostPantry ghosts = asked(3, 0, 0, 1, 1, 2, 2, 3, 3, 4, 5);
+        GhostPantry ghosts = Made.asked(3, 0, 0, 1, 1, 2, 2, 3, 3, 4, 5);
         DUE.sameText("rows with ghosts", Told.rows(ghosts), "5|3 2|4|1 0|5 4 3|");
-        refused(ghosts, "spoil of a recent one's ghost", BAD_STATE, () -> ghosts.spoil(4));
-        refused(ghosts, "spoil of a frequent one's ghost", BAD_STATE, () -> ghosts.spoil(1));
-        refused(ghosts, "spoil of a jar that is nowhere", BAD_STATE, () -> ghosts.spoil(29));
-        GhostPantry spoilt = asked(3, 7);
+        DUE.refused(ghosts, "spoil of a recent one's ghost", Due.BAD_STATE, () -> ghosts.spoil(4));
+        DUE.refused(ghosts, "spoil of a frequent one's ghost", Due.BAD_STATE, () -> ghosts.spoil(1));
+        DUE.refused(ghosts, "spoil of a jar that is nowhere", Due.BAD_STATE, () -> ghosts.spoil(29));
+        GhostPantry spoilt = Made.asked(3, 7);
         spoilt.spoil(7);
-        refused(spoilt, "spoil of a jar in the plain one alone", BAD_STATE, () -> spoilt.spoil(7));
+        DUE.refused(spoilt, "spoil of a jar in the plain one alone", Due.BAD_STATE, () -> spoilt.spoil(7));
     }
 
     // ---- promise 5
 
     private static void sweepForgetsGhosts() {
-        GhostPantry pantry = asked(3, 0, 0, 1, 1, 2, 2, 3, 3, 4, 5);
+        GhostPantry pantry = Made.asked(3, 0, 0, 1, 1, 2, 2, 3, 3, 4, 5);
         DUE.same("sweep()", pantry.sweep(), 3);
         DUE.sameText("rows after", Told.rows(pantry), "5|3 2|||5 4 3|");
         DUE.sameText("counts after", Told.counts(pantry), "3 1 2 0 0 3 0 0 10 4 4 0");
@@ -278,7 +271,7 @@ final class PromiseTest {
         DUE.same("ask(4) of a forgotten ghost", pantry.ask(4), 0);
         DUE.same("the border", pantry.count(7), 0);
         DUE.same("sweep() of a new object", new GhostPantry().sweep(), 0);
-        GhostPantry moved = asked(3, 0, 0, 1, 1, 2, 2, 3, 3, 4, 5, 4);
+        GhostPantry moved = Made.asked(3, 0, 0, 1, 1, 2, 2, 3, 3, 4, 5, 4);
         DUE.same("sweep() with a border", moved.sweep(), 3);
         DUE.same("the border stays", moved.count(7), 2);
         DUE.same("its steps stay", moved.count(11), 2);
@@ -293,15 +286,15 @@ final class PromiseTest {
         DUE.same("add(29) again", pantry.add(29), 3);
         DUE.sameText("the menu", Told.row(pantry, 6), "29 0 29");
         DUE.same("nothing is asked", pantry.count(8), 0);
-        for (int jar : NO_JARS) {
-            refused(pantry, "add(" + jar + ")", BAD_INDEX, () -> pantry.add(jar));
+        for (int jar : Made.NO_JARS) {
+            DUE.refused(pantry, "add(" + jar + ")", Due.BAD_INDEX, () -> pantry.add(jar));
         }
         GhostPantry full = new GhostPantry();
         for (int jar = 0; jar < 30; jar++) {
             DUE.same("add(" + jar + ")", full.add(jar), jar + 1);
         }
-        refused(full, "add(5) to 30", BAD_STATE, () -> full.add(5));
-        refused(full, "add(30) to 30", BAD_INDEX, () -> full.add(30));
+        DUE.refused(full, "add(5) to 30", Due.BAD_STATE, () -> full.add(5));
+        DUE.refused(full, "add(30) to 30", Due.BAD_INDEX, () -> full.add(30));
         full.drop(0);
         DUE.same("add(0) once one is off", full.add(0), 30);
     }
@@ -310,40 +303,40 @@ final class PromiseTest {
 
     private static void dropTakesOff() {
         GhostPantry pantry = new GhostPantry();
-        refused(pantry, "drop(0) of no menu", BAD_INDEX, () -> pantry.drop(0));
+        DUE.refused(pantry, "drop(0) of no menu", Due.BAD_INDEX, () -> pantry.drop(0));
         for (int jar = 0; jar < 30; jar++) {
             pantry.add(29 - jar);
         }
-        refused(pantry, "drop(30)", BAD_INDEX, () -> pantry.drop(30));
+        DUE.refused(pantry, "drop(30)", Due.BAD_INDEX, () -> pantry.drop(30));
         DUE.same("drop(29)", pantry.drop(29), 0);
-        refused(pantry, "drop(29) of 29", BAD_INDEX, () -> pantry.drop(29));
-        refused(pantry, "drop(-1)", BAD_INDEX, () -> pantry.drop(-1));
-        refused(pantry, "drop(least)", BAD_INDEX, () -> pantry.drop(Integer.MIN_VALUE));
-        refused(pantry, "drop(most)", BAD_INDEX, () -> pantry.drop(Integer.MAX_VALUE));
+        DUE.refused(pantry, "drop(29) of 29", Due.BAD_INDEX, () -> pantry.drop(29));
+        DUE.refused(pantry, "drop(-1)", Due.BAD_INDEX, () -> pantry.drop(-1));
+        DUE.refused(pantry, "drop(least)", Due.BAD_INDEX, () -> pantry.drop(Integer.MIN_VALUE));
+        DUE.refused(pantry, "drop(most)", Due.BAD_INDEX, () -> pantry.drop(Integer.MAX_VALUE));
         DUE.same("drop(0)", pantry.drop(0), 29);
         DUE.same("drop(1)", pantry.drop(1), 27);
         DUE.same("count(6)", pantry.count(6), 27);
         DUE.same("row(6, 0)", pantry.row(6, 0), 28);
         DUE.same("row(6, 1)", pantry.row(6, 1), 26);
         DUE.same("row(6, 26)", pantry.row(6, 26), 1);
-        refused(pantry, "row(6, 27)", BAD_INDEX, () -> pantry.row(6, 27));
+        DUE.refused(pantry, "row(6, 27)", Due.BAD_INDEX, () -> pantry.row(6, 27));
     }
 
     // ---- promise 8
 
     private static void cookAsksForTheMenu() {
-        GhostPantry pantry = asked(3, 0, 0, 1, 1, 2, 2, 3, 3, 4, 5);
-        menu(pantry, 4, 3, 0, 9, 9);
+        GhostPantry pantry = Made.asked(3, 0, 0, 1, 1, 2, 2, 3, 3, 4, 5);
+        Made.menu(pantry, 4, 3, 0, 9, 9);
         DUE.same("cook()", pantry.cook(), 2);
-        GhostPantry alone = asked(3, 0, 0, 1, 1, 2, 2, 3, 3, 4, 5, 4, 3, 0, 9, 9);
-        menu(alone, 4, 3, 0, 9, 9);
+        GhostPantry alone = Made.asked(3, 0, 0, 1, 1, 2, 2, 3, 3, 4, 5, 4, 3, 0, 9, 9);
+        Made.menu(alone, 4, 3, 0, 9, 9);
         DUE.sameText("rows after cook()", Told.rows(pantry), Told.rows(alone));
         DUE.sameText("counts after cook()", Told.counts(pantry), Told.counts(alone));
         DUE.same("digest after cook()", pantry.digest(), alone.digest());
         DUE.sameText("the menu stays", Told.row(pantry, 6), "4 3 0 9 9");
         DUE.same("told(9, 2)", pantry.told(9, 2), 2);
         DUE.same("told(9, 3)", pantry.told(9, 3), 1);
-        GhostPantry empty = asked(3, 0, 1);
+        GhostPantry empty = Made.asked(3, 0, 1);
         long before = empty.digest();
         DUE.same("cook() of no menu", empty.cook(), 0);
         DUE.same("it changes nothing", empty.digest(), before);
@@ -352,7 +345,7 @@ final class PromiseTest {
     // ---- promise 9
 
     private static void toldTellsOfAJar() {
-        GhostPantry pantry = asked(3, 0, 0, 1, 1, 2, 2, 3, 3, 4, 5, 2);
+        GhostPantry pantry = Made.asked(3, 0, 0, 1, 1, 2, 2, 3, 3, 4, 5, 2);
         DUE.sameText("rows", Told.rows(pantry), "5|2 3|4|1 0|2 5 4|");
         toldIs(pantry, 5, "1 0 1 0 1");
         toldIs(pantry, 2, "2 0 3 2 1");
@@ -361,11 +354,11 @@ final class PromiseTest {
         toldIs(pantry, 1, "4 0 2 1 0");
         toldIs(pantry, 0, "4 1 2 1 0");
         toldIs(pantry, 29, "0 -1 0 0 0");
-        for (int jar : NO_JARS) {
-            refused(pantry, "told(" + jar + ", 0)", BAD_INDEX, () -> pantry.told(jar, 0));
+        for (int jar : Made.NO_JARS) {
+            DUE.refused(pantry, "told(" + jar + ", 0)", Due.BAD_INDEX, () -> pantry.told(jar, 0));
         }
         for (int what : new int[] {-1, 5, 6, Integer.MIN_VALUE, Integer.MAX_VALUE}) {
-            refused(pantry, "told(2, " + what + ")", BAD_INDEX, () -> pantry.told(2, what));
+            DUE.refused(pantry, "told(2, " + what + ")", Due.BAD_INDEX, () -> pantry.told(2, what));
         }
     }
 
@@ -380,8 +373,8 @@ final class PromiseTest {
     // ---- promise 10
 
     private static void rowTellsJars() {
-        GhostPantry pantry = asked(3, 0, 0, 1, 1, 2, 2, 3, 3, 4, 5);
-        menu(pantry, 8, 8);
+        GhostPantry pantry = Made.asked(3, 0, 0, 1, 1, 2, 2, 3, 3, 4, 5);
+        Made.menu(pantry, 8, 8);
         int[][] due = {{}, {5}, {3, 2}, {4}, {1, 0}, {5, 4, 3}, {8, 8}};
         for (int row = 1; row <= 6; row++) {
             for (int place = 0; place < due[row].length; place++) {
@@ -389,26 +382,26 @@ final class PromiseTest {
             }
             for (int place : new int[] {-1, due[row].length, 30, Integer.MIN_VALUE, Integer.MAX_VALUE}) {
                 int asked = row;
-                refused(pantry, "row(" + row + ", " + place + ")", BAD_INDEX,
+                DUE.refused(pantry, "row(" + row + ", " + place + ")", Due.BAD_INDEX,
                     () -> pantry.row(asked, place));
             }
         }
         for (int row : new int[] {0, 7, -1, Integer.MIN_VALUE, Integer.MAX_VALUE}) {
-            refused(pantry, "row(" + row + ", 0)", BAD_INDEX, () -> pantry.row(row, 0));
+            DUE.refused(pantry, "row(" + row + ", 0)", Due.BAD_INDEX, () -> pantry.row(row, 0));
         }
     }
 
     // ---- promise 11
 
     private static void countTells() {
-        GhostPantry pantry = asked(3, 0, 0, 1, 1, 2, 2, 3, 3, 4, 5, 4, 0, 3, 4);
-        menu(pantry, 1, 2, 3, 4);
+        GhostPantry pantry = Made.asked(3, 0, 0, 1, 1, 2, 2, 3, 3, 4, 5, 4, 0, 3, 4);
+        Made.menu(pantry, 1, 2, 3, 4);
         DUE.sameText("rows", Told.rows(pantry), "|4 3 0|5|2 1|4 3 0|");
         DUE.sameText("counts", Told.counts(pantry), "3 0 3 1 2 3 4 1 14 6 6 3");
         for (int what : new int[] {-1, 12, 13, Integer.MIN_VALUE, Integer.MAX_VALUE}) {
-            refused(pantry, "count(" + what + ")", BAD_INDEX, () -> pantry.count(what));
+            DUE.refused(pantry, "count(" + what + ")", Due.BAD_INDEX, () -> pantry.count(what));
         }
-        GhostPantry spoilt = asked(6, 1, 2);
+        GhostPantry spoilt = Made.asked(6, 1, 2);
         spoilt.spoil(1);
         spoilt.ask(1);
         DUE.same("a spoilt jar was not there", spoilt.count(9), 0);
@@ -423,7 +416,7 @@ final class PromiseTest {
             jars[step] = (Integer) WORKED[step][0];
         }
         for (int step = 0; step < WORKED.length; step++) {
-            GhostPantry pantry = asked(3, java.util.Arrays.copyOf(jars, step));
+            GhostPantry pantry = Made.asked(3, java.util.Arrays.copyOf(jars, step));
             String before = Told.row(pantry, 1) + " " + Told.row(pantry, 2);
             long digest = pantry.digest();
             int leaver = pantry.leaves(jars[step]);
@@ -438,22 +431,22 @@ final class PromiseTest {
             }
             DUE.same("leaves(" + jars[step] + ") at step " + step, leaver, want);
         }
-        GhostPantry full = asked(3, 0, 1, 2);
+        GhostPantry full = Made.asked(3, 0, 1, 2);
         DUE.same("leaves, without a ghost", full.leaves(3), 0);
         DUE.same("leaves of one that is there", full.leaves(0), -1);
         full.spoil(1);
         DUE.same("leaves with a free place", full.leaves(3), -1);
         DUE.same("leaves of a new object", new GhostPantry().leaves(0), -1);
-        for (int jar : NO_JARS) {
-            refused(full, "leaves(" + jar + ")", BAD_INDEX, () -> full.leaves(jar));
+        for (int jar : Made.NO_JARS) {
+            DUE.refused(full, "leaves(" + jar + ")", Due.BAD_INDEX, () -> full.leaves(jar));
         }
     }
 
     // ---- promise 13
 
     private static void foreseeCooksAhead() {
-        GhostPantry pantry = asked(3, 0, 0, 1, 1, 2, 2, 3, 3, 4, 5);
-        menu(pantry, 4, 3, 0, 9, 9, 11, 2);
+        GhostPantry pantry = Made.asked(3, 0, 0, 1, 1, 2, 2, 3, 3, 4, 5);
+        Made.menu(pantry, 4, 3, 0, 9, 9, 11, 2);
         long before = pantry.digest();
         int[] foreseen = new int[10];
         for (int times = 1; times <= 9; times++) {
@@ -465,22 +458,22 @@ final class PromiseTest {
             cooked += pantry.cook();
             DUE.same("foresee(" + times + ")", foreseen[times], cooked);
         }
-        for (int times : NO_TIMES) {
-            refused(pantry, "foresee(" + times + ")", BAD_ARGUMENT, () -> pantry.foresee(times));
+        for (int times : Made.NO_TIMES) {
+            DUE.refused(pantry, "foresee(" + times + ")", Due.BAD_ARGUMENT, () -> pantry.foresee(times));
         }
-        GhostPantry empty = asked(3, 0, 0);
+        GhostPantry empty = Made.asked(3, 0, 0);
         DUE.same("foresee(9) of no menu", empty.foresee(9), 0);
-        refused(empty, "foresee(0) of no menu", BAD_ARGUMENT, () -> empty.foresee(0));
-        GhostPantry two = asked(2, 0, 1);
-        menu(two, 0, 1, 2);
+        DUE.refused(empty, "foresee(0) of no menu", Due.BAD_ARGUMENT, () -> empty.foresee(0));
+        GhostPantry two = Made.asked(2, 0, 1);
+        Made.menu(two, 0, 1, 2);
         DUE.same("foresee(1): 0 and 1 are there", two.foresee(1), 2);
     }
 
     // ---- promise 14
 
     private static void plainCooksAhead() {
-        GhostPantry pantry = asked(3, 0, 0, 1, 1, 2, 2, 3, 3, 4, 5);
-        menu(pantry, 4, 3, 0, 9, 9, 11, 3);
+        GhostPantry pantry = Made.asked(3, 0, 0, 1, 1, 2, 2, 3, 3, 4, 5);
+        Made.menu(pantry, 4, 3, 0, 9, 9, 11, 3);
         pantry.spoil(3);
         long before = pantry.digest();
         int[] told = new int[10];
@@ -493,44 +486,44 @@ final class PromiseTest {
             pantry.cook();
             DUE.same("plain(" + times + ")", told[times], pantry.count(10) - start);
         }
-        for (int times : NO_TIMES) {
-            refused(pantry, "plain(" + times + ")", BAD_ARGUMENT, () -> pantry.plain(times));
+        for (int times : Made.NO_TIMES) {
+            DUE.refused(pantry, "plain(" + times + ")", Due.BAD_ARGUMENT, () -> pantry.plain(times));
         }
-        GhostPantry empty = asked(3, 0, 0);
+        GhostPantry empty = Made.asked(3, 0, 0);
         DUE.same("plain(9) of no menu", empty.plain(9), 0);
-        refused(empty, "plain(10) of no menu", BAD_ARGUMENT, () -> empty.plain(10));
-        GhostPantry round = asked(2, 0, 1);
-        menu(round, 0, 1, 2);
+        DUE.refused(empty, "plain(10) of no menu", Due.BAD_ARGUMENT, () -> empty.plain(10));
+        GhostPantry round = Made.asked(2, 0, 1);
+        Made.menu(round, 0, 1, 2);
         DUE.same("plain(1): 0 and 1 are there", round.plain(1), 2);
         DUE.same("plain(9): never again", round.plain(9), 2);
-        GhostPantry back = asked(2, 0, 1);
-        menu(back, 0, 2, 0, 1);
+        GhostPantry back = Made.asked(2, 0, 1);
+        Made.menu(back, 0, 2, 0, 1);
         DUE.same("plain(1): what is asked for comes to the front", back.plain(1), 2);
     }
 
     // ---- promise 15
 
     private static void bestFindsTheLeastRoom() {
-        GhostPantry pantry = asked(3, 0, 0, 1, 1, 2, 2, 3, 3, 4, 5, 4);
+        GhostPantry pantry = Made.asked(3, 0, 0, 1, 1, 2, 2, 3, 3, 4, 5, 4);
         DUE.same("best(1) of no menu", pantry.best(1), -1);
         DUE.same("best(9) of no menu", pantry.best(9), -1);
-        refused(pantry, "best(0) of no menu", BAD_ARGUMENT, () -> pantry.best(0));
-        menu(pantry, 0, 1, 2, 3);
+        DUE.refused(pantry, "best(0) of no menu", Due.BAD_ARGUMENT, () -> pantry.best(0));
+        Made.menu(pantry, 0, 1, 2, 3);
         long before = pantry.digest();
         DUE.same("best(1): none is there, so the least room", pantry.best(1), 1);
         DUE.same("best(2): all four are kept", pantry.best(2), 4);
         DUE.same("digest after best", pantry.digest(), before);
-        for (int times : NO_TIMES) {
-            refused(pantry, "best(" + times + ")", BAD_ARGUMENT, () -> pantry.best(times));
+        for (int times : Made.NO_TIMES) {
+            DUE.refused(pantry, "best(" + times + ")", Due.BAD_ARGUMENT, () -> pantry.best(times));
         }
         GhostPantry twelve = new GhostPantry();
-        menu(twelve, 0, 1, 2, 3, 4, 5, 6, 7, 8, 9, 10, 11);
+        Made.menu(twelve, 0, 1, 2, 3, 4, 5, 6, 7, 8, 9, 10, 11);
         DUE.same("best(2) of twelve jars", twelve.best(2), 12);
         DUE.same("best(9) of twelve jars", twelve.best(9), 12);
 
         GhostPantry mixed = new GhostPantry();
         int[] jars = {0, 1, 2, 0, 3, 4, 0, 1, 5, 6, 0, 2, 7, 1, 8, 0, 9, 10};
-        menu(mixed, jars);
+        Made.menu(mixed, jars);
         for (int times = 1; times <= 9; times++) {
             DUE.same("best(" + times + ") of a mixed menu", mixed.best(times), bestByCooking(jars, times));
         }
@@ -542,7 +535,7 @@ final class PromiseTest {
         for (int room = 1; room <= 12; room++) {
             GhostPantry fresh = new GhostPantry();
             fresh.setRoom(room);
-            menu(fresh, jars);
+            Made.menu(fresh, jars);
             int there = 0;
             for (int time = 0; time < times; time++) {
                 there += fresh.cook();
@@ -568,7 +561,7 @@ final class PromiseTest {
         DUE.sameReal("mean() 2 of 3", pantry.mean(), 2.0 / 3.0);
         pantry.setRoom(2);
         DUE.sameReal("mean() goes on over setRoom", pantry.mean(), 2.0 / 3.0);
-        menu(pantry, 1, 2, 0, 0);
+        Made.menu(pantry, 1, 2, 0, 0);
         pantry.cook();
         DUE.sameReal("mean() 3 of 7", pantry.mean(), 3.0 / 7.0);
         pantry.spoil(0);
@@ -584,44 +577,14 @@ final class PromiseTest {
             d = d * 31;
         }
         DUE.same("digest() of a new object", new GhostPantry().digest(), d);
-        GhostPantry pantry = asked(3, 0, 0, 1, 1, 2, 2, 3, 3, 4, 5, 4, 0, 3, 4, 29);
-        menu(pantry, 29, 0, 7);
+        GhostPantry pantry = Made.asked(3, 0, 0, 1, 1, 2, 2, 3, 3, 4, 5, 4, 0, 3, 4, 29);
+        Made.menu(pantry, 29, 0, 7);
         DUE.same("digest()", pantry.digest(), Told.digest(pantry));
         pantry.cook();
         DUE.same("digest() after cook", pantry.digest(), Told.digest(pantry));
         pantry.setRoom(12);
         DUE.same("digest() after setRoom", pantry.digest(), Told.digest(pantry));
         DUE.same("digest() twice", pantry.digest(), pantry.digest());
-        DUE.same("digest() of a filled one", filled().digest(), Told.digest(filled()));
-    }
-
-    // ---- what the tests share
-
-    private static GhostPantry asked(int room, int... jars) {
-        GhostPantry pantry = new GhostPantry();
-        pantry.setRoom(room);
-        for (int jar : jars) {
-            pantry.ask(jar);
-        }
-        return pantry;
-    }
-
-    private static void menu(GhostPantry pantry, int... jars) {
-        for (int jar : jars) {
-            pantry.add(jar);
-        }
-    }
-
-    /** Something stands in every row, and the border is not 0. */
-    private static GhostPantry filled() {
-        GhostPantry pantry = asked(3, 0, 0, 1, 1, 2, 2, 3, 3, 4, 5, 4, 6, 7, 0);
-        menu(pantry, 1, 2, 3);
-        return pantry;
-    }
-
-    private static void refused(GhostPantry pantry, String call, Class<?> want, Due.Call made) {
-        long before = pantry.digest();
-        DUE.thrown(call, want, made);
-        DUE.same("digest after refused " + call, pantry.digest(), before);
+        DUE.same("digest() of a filled one", Made.filled().digest(), Told.digest(Made.filled()));
     }
 }

@@ -12,6 +12,11 @@ final class Told {
         return text.toString();
     }
 
+    /** Rows 1 to 5, the border, and how far it moved in all. */
+    static String state(GhostPantry pantry) {
+        return rows(pantry) + " border " + pantry.count(7) + " moved " + pantry.count(11);
+    }
+
     static String row(GhostPantry pantry, int row) {
         StringBuilder text = new StringBuilder();
         int many = pantry.count(row);
